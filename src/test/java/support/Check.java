@@ -1,0 +1,53 @@
+/** Counts the checks of one test class, prints those that fail, and ends with exit code 1 if one did. */
+final class Check {
+    /** A call whose answer, or whose exception, is checked. */
+    interface Call {
+        long answer();
+    }
+
+    static final Class<? extends Exception> INDEX = IndexOutOfBoundsException.class;
+    static final Class<? extends Exception> ARGUMENT = IllegalArgumentException.class;
+    static final Class<? extends Exception> STATE = IllegalStateException.class;
+
+    private int made = 0;
+    private int failed = 0;
+
+    /** What is checked is due. */
+    void due(String what, long got, long want) {
+        made++;
+        if (got != want) {
+            failed++;
+            System.out.println(what + " answered " + got + ", due is " + want);
+        }
+    }
+
+    void isTrue(String what, boolean got) {
+        due(what, got ? 1 : 0, 1);
+    }
+
+    void isFalse(String what, boolean got) {
+        due(what, got ? 1 : 0, 0);
+    }
+
+    /** The call throws just this class of exception, neither one above it nor one below it. */
+    void refused(String what, Class<? extends Exception> kind, Call call) {
+        made++;
+        try {
+            long got = call.answer();
+            failed++;
+            System.out.println(what + " answered " + got + ", due is " + kind.getSimpleName());
+        } catch (RuntimeException thrown) {
+            if (thrown.getClass() != kind) {
+                failed++;
+                System.out.println(what + " threw " + thrown + ", due is " + kind.getSimpleName());
+            }
+        }
+    }
+
+    void end(String name) {
+        System.out.println(name + ": " + (made - failed) + " checks hold, " + failed + " do not");
+        if (failed > 0 || made == 0) {
+            System.exit(1);
+        }
+    }
+}
