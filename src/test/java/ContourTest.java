@@ -13,6 +13,7 @@ final class ContourTest {
         largestMap();
         levelsAreHeld();
         asksChangeNothing();
+        eachAskStandsAlone();
         check.end("ContourTest");
     }
 
@@ -144,5 +145,18 @@ final class ContourTest {
         contours("grounds make no lines", club, 10, 1, 1, 4);
         contours("asked again", club, 10, 1, 1, 4);
         check.due("the top stays", club.cell(1, 1), 104);
+    }
+
+    private static void eachAskStandsAlone() {
+        Spurline club = new Spurline(5, 5);
+        club.hill(2, 2, 20, 10);
+        check.due("rings asked first", club.rings(20), 1);
+        check.due("longest of another level", club.longest(10), 12);
+        check.due("rings of a level without", club.rings(21), 0);
+        check.due("longest of the top", club.longest(20), 4);
+        club.setHeight(2, 1, 20);
+        check.due("longest of a longer top", club.longest(20), 6);
+        club.setHeight(2, 0, 20);
+        check.due("rings of one that meets the edge", club.rings(20), 0);
     }
 }

@@ -20,6 +20,9 @@ final class RaceTest {
         lostTime();
         lostOnSharedLegs();
         lostWithoutTime();
+        lostByThePaceRoundedDown();
+        eachAskStandsAlone();
+        aFullField();
         unknownRunnersAndLegs();
         check.end("RaceTest");
     }
@@ -101,7 +104,8 @@ final class RaceTest {
         check.refused("minute 10000", Check.ARGUMENT, () -> club.punch(1, 1, 10000));
         check.refused("ahead of the start", Check.ARGUMENT, () -> club.punch(0, 1, 9));
         check.due("at the start", club.punch(0, 1, 10), 1);
-        check.due("the other one at minute 0", club.punch(1, 1, 0), 1);
+        check.due("the second of the other", club.punch(1, 0, 15), 0);
+        check.refused("ahead of the first of the other", Check.ARGUMENT, () -> club.punch(1, 1, 14));
         check.due("later", club.punch(0, 5, 20), 1);
         check.refused("ahead of the punch before", Check.ARGUMENT, () -> club.punch(0, 2, 19));
         check.due("with the punch before", club.punch(0, 2, 20), 2);
@@ -358,6 +362,59 @@ final class RaceTest {
         check.due("the best of all legs is 0: pace 1000", club.lost(0, 1), 9998);
         check.due("as good as the best", club.lost(0, 0), 0);
         check.due("the last", club.rank(0), 2);
+    }
+
+    private static void lostByThePaceRoundedDown() {
+        Spurline club = withRunners(1, 0, 0);
+        punchAll(club, 1, 1, 1000, 2, 1000, 3, 1100);
+        punchAll(club, 0, 1, 5001, 2, 5001, 3, 5002);
+        // The best splits are 1000, 0 and 1. Pace 5001000 / 1001 = 4996, and 1000 times it / 1000 are 4996.
+        check.due("a pace rounded down", club.lost(0, 0), 5000 - 4996);
+        check.due("nothing on a leg of no time", club.lost(0, 1), 0);
+        // Pace 1100000 / 1001 = 1098, and 1 time it / 1000 is 1.
+        check.due("the other one", club.lost(1, 2), 100 - 1);
+        Spurline quick = withRunners(5, 0, 0);
+        punchAll(quick, 1, 1, 0, 2, 0, 3, 1);
+        punchAll(quick, 0, 1, 10, 2, 10, 3, 13);
+        // The best splits are 0, 0 and 1: pace 8000 / 1.
+        check.due("best splits of 1 together", quick.lost(0, 2), 0);
+        check.due("all of a leg that can be run in no time", quick.lost(0, 0), 5);
+    }
+
+    private static void eachAskStandsAlone() {
+        Spurline club = withRunners(1, 0);
+        club.fail(1, true);
+        punchAll(club, 0, 2, 5, 3, 7);
+        club.fail(1, false);
+        check.due("lost asked first", club.lost(0, 2), -1);
+        club.fail(1, true);
+        check.due("lost after a failure", club.lost(0, 2), 0);
+        club.fail(2, true);
+        check.due("split after a failure", club.split(0, 2), -1);
+        club.fail(2, false);
+        check.due("total after it was none", club.total(0), 2);
+        club.fail(1, false);
+        check.due("rank after it was none", club.rank(0), -1);
+    }
+
+    private static void aFullField() {
+        Spurline club = withRunners(1, 0, 1, 0, 1, 0, 1, 0, 1, 0, 1, 0, 1, 0, 1, 0, 1, 0, 1, 0, 1, 0, 1, 0, 1);
+        for (int runner = 0; runner < 24; runner++) {
+            int start = club.startOf(runner);
+            punchAll(club, runner, 1, start + runner, 2, start + 2 * runner, 3, start + 3 * runner);
+            punchAll(club, runner, 5, start + 4 * runner);
+        }
+        for (int runner = 0; runner < 24; runner++) {
+            check.due("state of " + runner, club.stateOf(runner), Spurline.RANKED);
+            hasSplits("runner " + runner, club, runner, runner, runner, runner);
+            check.due("total of " + runner, club.total(runner), runner % 2 == 0 ? 3 * runner : 4 * runner);
+            check.due("rank of " + runner, club.rank(runner), 1 + runner / 2);
+            check.due("the leg 2 to 3 can be run in 0: " + runner, club.lost(runner, 2), runner);
+        }
+        check.due("the last leg of the last", club.split(23, 3), 23);
+        // The best splits of class 1 are 1, 0, 0 and 1: pace 92000 / 2.
+        check.due("lost by the last at the start", club.lost(23, 0), 0);
+        check.due("lost by the last at the finish", club.lost(23, 3), 0);
     }
 
     private static void unknownRunnersAndLegs() {

@@ -13,6 +13,7 @@ final class RouteTest {
         noRoute();
         temptsByJustLess();
         aSnake();
+        eachAskStandsAlone();
         unknownControls();
         check.end("RouteTest");
     }
@@ -177,6 +178,24 @@ final class RouteTest {
             }
         }
         route("over all tops", club, 0, 2, 10 * 77 + 4 * 255 * 38, 255 * 38);
+    }
+
+    private static void eachAskStandsAlone() {
+        Spurline club = new Spurline(3, 3);
+        club.control(0, 0);
+        club.control(2, 0);
+        check.due("costByCells asked first", club.costByCells(0, 1), 20);
+        club.setGround(2, 0, 2, 0, 3);
+        check.due("costByCells after a change", club.costByCells(0, 1), 50);
+        club.setHeight(2, 0, 1);
+        check.due("costByCells after another", club.costByCells(0, 1), 54);
+        check.due("costByCells back", club.costByCells(1, 0), 20);
+        club.setHeight(2, 0, 2);
+        check.due("climb after a change", club.climb(0, 1), 2);
+        club.setGround(2, 0, 2, 0, 4);
+        check.due("cost after a change", club.cost(0, 1), -1);
+        club.setGround(2, 0, 2, 0, 0);
+        check.isFalse("tempts after a change", club.tempts(0, 1));
     }
 
     private static void unknownControls() {
