@@ -14,6 +14,7 @@ final class RaceTest {
         failuresChangeStates();
         failedFinishAndStart();
         nothingToPunch();
+        controlNoughtBehindTheStart();
         splits();
         splitsOfVoidLegs();
         totalsAndRanks();
@@ -251,6 +252,27 @@ final class RaceTest {
         club.draw(0, 1);
         check.due("nothing counts", club.punch(0, 1, 3), 0);
         check.due("all the same", club.stateOf(0), Spurline.RANKED);
+    }
+
+    private static void controlNoughtBehindTheStart() {
+        Spurline club = withCourses();
+        int[] last = {1, 2, 0};
+        int[] between = {2, 0, 1};
+        for (int index = 0; index < 3; index++) {
+            club.visit(2, last[index]);
+            club.visit(3, between[index]);
+        }
+        club.enter(2, 0);
+        club.enter(3, 0);
+        club.draw(0, 1);
+        check.due("nobody was at 0 as finish", club.stateOf(0), Spurline.RUNNING);
+        check.due("one ahead of 0", club.punch(0, 2, 3), 1);
+        check.due("still not at 0", club.stateOf(0), Spurline.RUNNING);
+        hasSplits("finish 0", club, 0, 3, -1);
+        check.due("the finish 1 alone", club.punch(1, 1, 3), 0);
+        check.due("is wrong", club.stateOf(1), Spurline.WRONG);
+        check.due("then 0", club.punch(1, 0, 4), 1);
+        hasSplits("0 between", club, 1, 4, -1);
     }
 
     private static void splits() {
