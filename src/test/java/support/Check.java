@@ -11,14 +11,28 @@ final class Check {
 
     private int made = 0;
     private int failed = 0;
+    private String place = "";
+
+    /** The place in the document that the checks from here on hold: they are told by it. */
+    void about(String place) {
+        this.place = place + ": ";
+    }
+
+    void about(int promise) {
+        about("promise " + promise);
+    }
 
     /** What is checked is due. */
     void due(String what, long got, long want) {
         made++;
         if (got != want) {
-            failed++;
-            System.out.println(what + " answered " + got + ", due is " + want);
+            fails(what + " answered " + got + ", due is " + want);
         }
+    }
+
+    private void fails(String what) {
+        failed++;
+        System.out.println(place + what);
     }
 
     void isTrue(String what, boolean got) {
@@ -34,12 +48,10 @@ final class Check {
         made++;
         try {
             long got = call.answer();
-            failed++;
-            System.out.println(what + " answered " + got + ", due is " + kind.getSimpleName());
+            fails(what + " answered " + got + ", due is " + kind.getSimpleName());
         } catch (RuntimeException thrown) {
             if (thrown.getClass() != kind) {
-                failed++;
-                System.out.println(what + " threw " + thrown + ", due is " + kind.getSimpleName());
+                fails(what + " threw " + thrown + ", due is " + kind.getSimpleName());
             }
         }
     }
