@@ -21,6 +21,7 @@ final class CourseEdgesTest {
         routesOfNone();
         routesToThemselves();
         leastClimb();
+        leastClimbOfWhicheverIsFirst();
         tempts();
         routesRefused(told);
         courseAt(told);
@@ -39,9 +40,9 @@ final class CourseEdgesTest {
         for (int control = 0; control < CONTROLS; control++) {
             club.control(control, 3 - control % 2);
         }
-        visitAll(club, 0, 0, 3, 2, 1, 4);
-        visitAll(club, 1, 2);
-        visitAll(club, 3, 4, 0);
+        Calls.visitAll(club, 0, 0, 3, 2, 1, 4);
+        Calls.visitAll(club, 1, 2);
+        Calls.visitAll(club, 3, 4, 0);
         club.fail(3, true);
         club.enter(0, 7);
         club.enter(3, 0);
@@ -62,19 +63,6 @@ final class CourseEdgesTest {
             club.control(control, 0);
         }
         return club;
-    }
-
-    private static void visitAll(Spurline club, int klass, int... controls) {
-        for (int control : controls) {
-            club.visit(klass, control);
-        }
-    }
-
-    private static void isCourse(String what, Spurline club, int klass, int... controls) {
-        for (int index = 0; index < controls.length; index++) {
-            check.due(what + ": control " + index, club.courseAt(klass, index), controls[index]);
-        }
-        check.refused(what + ": no more", Check.INDEX, () -> club.courseAt(klass, controls.length));
     }
 
     private static void control() {
@@ -134,7 +122,7 @@ final class CourseEdgesTest {
             club.fail(control, true);
             check.due("failed control " + control, club.visit(4, control), control + 2);
         }
-        isCourse("six of them", club, 4, 11, 0, 1, 2, 3, 4);
+        check.isCourse("six of them", club, 4, 11, 0, 1, 2, 3, 4);
         club.enter(4, 0);
         check.due("after an entry", club.visit(0, 5), 3);
     }
@@ -165,7 +153,7 @@ final class CourseEdgesTest {
 
     private static Spurline courseOfSix() {
         Spurline club = strip(7);
-        visitAll(club, 2, 5, 2, 4, 1, 3, 0);
+        Calls.visitAll(club, 2, 5, 2, 4, 1, 3, 0);
         return club;
     }
 
@@ -174,7 +162,7 @@ final class CourseEdgesTest {
         Spurline club = strip(7);
         club.setHeight(3, 0, 10);
         club.setHeight(3, 1, 10);
-        visitAll(club, 0, 0, 3, 5, 6);
+        Calls.visitAll(club, 0, 0, 3, 5, 6);
         return club;
     }
 
@@ -182,15 +170,15 @@ final class CourseEdgesTest {
         check.about(7);
         Spurline club = ridge();
         check.due("the greatest climb", club.arrange(0, 9999), 20);
-        isCourse("climb 9999", club, 0, 0, 5, 3, 6);
+        check.isCourse("climb 9999", club, 0, 0, 5, 3, 6);
         check.due("the least climb", club.arrange(0, 0), 10);
-        isCourse("climb 0", club, 0, 0, 3, 5, 6);
+        check.isCourse("climb 0", club, 0, 0, 3, 5, 6);
         check.due("just its climb", club.arrange(0, 20), 20);
         check.due("one below the middle", club.arrange(0, 14), 10);
         check.due("one above the middle", club.arrange(0, 16), 20);
         check.due("as near from above as from below: the least cost", club.arrange(0, 15), 10);
         for (int klass = 1; klass < 5; klass++) {
-            visitAll(club, klass, 6, 0);
+            Calls.visitAll(club, klass, 6, 0);
             check.due("class " + klass, club.arrange(klass, 9999), 10);
         }
     }
@@ -202,26 +190,26 @@ final class CourseEdgesTest {
         check.refused("still none", Check.INDEX, () -> club.courseAt(1, 0));
         club.visit(1, 5);
         check.due("one control: no legs", club.arrange(1, 0), Spurline.NONE);
-        isCourse("one control", club, 1, 5);
+        check.isCourse("one control", club, 1, 5);
         club.visit(1, 4);
         check.due("two controls: one leg, no climb", club.arrange(1, 9999), 0);
-        isCourse("two controls", club, 1, 5, 4);
+        check.isCourse("two controls", club, 1, 5, 4);
         club.visit(1, 0);
         check.due("three controls", club.arrange(1, 9999), 10);
-        isCourse("three controls", club, 1, 5, 4, 0);
+        check.isCourse("three controls", club, 1, 5, 4, 0);
         club.arrange(0, 20);
         club.setGround(6, 0, 6, 0, 4);
         check.due("no route to the finish", club.arrange(0, 10), Spurline.NONE);
-        isCourse("all stays", club, 0, 0, 5, 3, 6);
+        check.isCourse("all stays", club, 0, 0, 5, 3, 6);
         check.due("nor later", club.courseClimb(0), Spurline.NONE);
         club.setGround(6, 0, 6, 0, 0);
         club.setGround(3, 0, 3, 0, 4);
         check.due("no route to one between", club.arrange(0, 10), Spurline.NONE);
-        isCourse("all stays again", club, 0, 0, 5, 3, 6);
+        check.isCourse("all stays again", club, 0, 0, 5, 3, 6);
         club.setGround(3, 0, 3, 0, 0);
         club.setGround(0, 0, 0, 1, 4);
         check.due("no route back to the start", club.arrange(0, 10), 10);
-        isCourse("is none of its legs", club, 0, 0, 3, 5, 6);
+        check.isCourse("is none of its legs", club, 0, 0, 3, 5, 6);
     }
 
     /** Each test decides only where those ahead of it do not. */
@@ -230,16 +218,16 @@ final class CourseEdgesTest {
         Spurline club = strip(12);
         club.setHeight(11, 0, 3);
         club.setHeight(11, 1, 3);
-        visitAll(club, 0, 5, 11, 10, 0, 4);
+        Calls.visitAll(club, 0, 5, 11, 10, 0, 4);
         check.due("all orders have one climb", club.arrange(0, 3), 3);
         // 5 11 10 0 4 costs as much; 5 0 10 11 4 is a lesser row that costs more.
-        isCourse("of one cost: the least row", club, 0, 5, 10, 11, 0, 4);
+        check.isCourse("of one cost: the least row", club, 0, 5, 10, 11, 0, 4);
         check.due("which costs", club.courseCost(0), 10 * (5 + 1 + 11 + 4) + 12);
         check.due("with a greater climb wanted", club.arrange(0, 9999), 3);
-        isCourse("the same row", club, 0, 5, 10, 11, 0, 4);
-        visitAll(club, 1, 8, 2, 4, 6, 1);
+        check.isCourse("the same row", club, 0, 5, 10, 11, 0, 4);
+        Calls.visitAll(club, 1, 8, 2, 4, 6, 1);
         check.due("flat", club.arrange(1, 0), 0);
-        isCourse("the one of less cost, though its row is the greatest", club, 1, 8, 6, 4, 2, 1);
+        check.isCourse("the one of less cost, though its row is the greatest", club, 1, 8, 6, 4, 2, 1);
         check.due("its cost", club.courseCost(1), 70);
     }
 
@@ -268,9 +256,9 @@ final class CourseEdgesTest {
         }
         int start = club.control(0, 0);
         int finish = club.control(11, 0);
-        visitAll(club, 4, start, 1, 3, 0, 2, finish);
+        Calls.visitAll(club, 4, start, 1, 3, 0, 2, finish);
         check.due("the climb of six", club.arrange(4, 0), 0);
-        isCourse("six", club, 4, start, order[0], order[1], order[2], order[3], finish);
+        check.isCourse("six", club, 4, start, order[0], order[1], order[2], order[3], finish);
         check.due("the cost of six", club.courseCost(4), 110);
     }
 
@@ -353,6 +341,26 @@ final class CourseEdgesTest {
         isRoute("the greatest climb of a step", club, 1, 0, 20 + 4 * 255, 255);
     }
 
+    /** Two routes that cost the same: each time the other one comes to the last cell first. */
+    private static void leastClimbOfWhicheverIsFirst() {
+        Spurline club = new Spurline(3, 2);
+        club.control(0, 0);
+        club.control(2, 0);
+        club.setHeight(1, 0, 10);
+        club.setHeight(2, 0, 5);
+        // Over the hill 20 and 4 times 10, around it 40 and 4 times 5 for the last step.
+        isRoute("around, as the last step goes up", club, 0, 1, 60, 5);
+        Spurline valley = new Spurline(4, 2);
+        valley.control(0, 0);
+        valley.control(3, 0);
+        for (int x = 1; x < 4; x++) {
+            valley.setHeight(x, 0, x % 2 * 5);
+            valley.setHeight(x, 1, 5);
+        }
+        // Through the valley 30 and 4 times 5 twice, around it 50 and 4 times 5.
+        isRoute("around the valley", valley, 0, 1, 70, 5);
+    }
+
     private static void tempts() {
         Spurline club = new Spurline(3, 2);
         club.control(0, 0);
@@ -425,7 +433,7 @@ final class CourseEdgesTest {
         measures("one control: no legs", club, 4, Spurline.NONE, Spurline.NONE);
         club.visit(4, 5);
         measures("one leg without a climb", club, 4, 0, 10);
-        visitAll(club, 4, 4, 2, 1, 0);
+        Calls.visitAll(club, 4, 4, 2, 1, 0);
         measures("five legs", club, 4, 10, 60 + 40);
         club.setGround(0, 0, 0, 0, 4);
         measures("no route for the last leg", club, 4, Spurline.NONE, Spurline.NONE);
@@ -456,9 +464,9 @@ final class CourseEdgesTest {
         check.due("one flat course", club.spread(), 0);
         club.visit(0, 4);
         check.due("the first and the last class", club.spread(), 40);
-        visitAll(club, 2, 4, 2, 5, 1);
+        Calls.visitAll(club, 2, 4, 2, 5, 1);
         check.due("the greatest one between them", club.spread(), 120);
-        visitAll(club, 1, 3, 2);
+        Calls.visitAll(club, 1, 3, 2);
         check.due("two flat ones", club.spread(), 120);
         club.setGround(1, 0, 1, 0, 4);
         check.due("a course without a climb is left out", club.spread(), 40);

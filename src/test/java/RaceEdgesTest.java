@@ -38,16 +38,10 @@ final class RaceEdgesTest {
         for (int control = 0; control < CONTROLS; control++) {
             club.control(control, 0);
         }
-        visitAll(club, 0, 0, 1, 2, 3);
-        visitAll(club, 4, 4, 1, 2, 3, 0, 5);
-        visitAll(club, 2, 3);
+        Calls.visitAll(club, 0, 0, 1, 2, 3);
+        Calls.visitAll(club, 4, 4, 1, 2, 3, 0, 5);
+        Calls.visitAll(club, 2, 3);
         return club;
-    }
-
-    private static void visitAll(Spurline club, int klass, int... controls) {
-        for (int control : controls) {
-            club.visit(klass, control);
-        }
     }
 
     private static Spurline entered() {
@@ -67,9 +61,9 @@ final class RaceEdgesTest {
 
     private static Spurline underWay() {
         Spurline club = drawn();
-        punchAll(club, 1, 1, 5, 2, 9, 3, 20);
-        punchAll(club, 0, 1, 15);
-        punchAll(club, 3, 3, 40);
+        Calls.punchAll(club, 1, 1, 5, 2, 9, 3, 20);
+        Calls.punchAll(club, 0, 1, 15);
+        Calls.punchAll(club, 3, 3, 40);
         return club;
     }
 
@@ -79,18 +73,6 @@ final class RaceEdgesTest {
             club.punch(0, 6, 30);
         }
         return club;
-    }
-
-    private static void punchAll(Spurline club, int runner, int... controlsAndMinutes) {
-        for (int index = 0; index < controlsAndMinutes.length; index += 2) {
-            club.punch(runner, controlsAndMinutes[index], controlsAndMinutes[index + 1]);
-        }
-    }
-
-    private static void hasSplits(String what, Spurline club, int runner, int... minutes) {
-        for (int leg = 0; leg < minutes.length; leg++) {
-            check.due(what + ": split " + leg, club.split(runner, leg), minutes[leg]);
-        }
     }
 
     private static void punchMinutes() {
@@ -177,7 +159,7 @@ final class RaceEdgesTest {
             check.isTrue("had, has: " + control, club.fail(control, true));
             check.isTrue("had, has not: " + control, club.fail(control, false));
         }
-        visitAll(club, 4, 0, 1, 2, 3, 4, 11);
+        Calls.visitAll(club, 4, 0, 1, 2, 3, 4, 11);
         for (int between = 1; between < 5; between++) {
             check.isFalse("between start and finish: " + between, club.fail(between, true));
         }
@@ -214,19 +196,19 @@ final class RaceEdgesTest {
         check.due("ahead of the draw", club.stateOf(0), Spurline.RUNNING);
         club.draw(0, 10);
         check.due("no punches", club.stateOf(0), Spurline.RUNNING);
-        punchAll(club, 0, 1, 10, 2, 10);
+        Calls.punchAll(club, 0, 1, 10, 2, 10);
         check.due("all but the finish", club.stateOf(0), Spurline.RUNNING);
-        punchAll(club, 0, 3, 10);
+        Calls.punchAll(club, 0, 3, 10);
         check.due("all", club.stateOf(0), Spurline.RANKED);
-        punchAll(club, 3, 3, 20);
+        Calls.punchAll(club, 3, 3, 20);
         check.due("the finish alone", club.stateOf(3), Spurline.WRONG);
-        punchAll(club, 3, 1, 20, 2, 20);
+        Calls.punchAll(club, 3, 1, 20, 2, 20);
         check.due("all but the finish, behind it", club.stateOf(3), Spurline.WRONG);
-        punchAll(club, 3, 3, 20);
+        Calls.punchAll(club, 3, 3, 20);
         check.due("the finish once more", club.stateOf(3), Spurline.RANKED);
-        punchAll(club, 2, 3, 0);
+        Calls.punchAll(club, 2, 3, 0);
         check.due("the finish of another class", club.stateOf(2), Spurline.RUNNING);
-        punchAll(club, 1, 0, 0);
+        Calls.punchAll(club, 1, 0, 0);
         check.due("the start", club.stateOf(1), Spurline.RUNNING);
         club.fail(1, true);
         club.fail(2, true);
@@ -241,9 +223,9 @@ final class RaceEdgesTest {
             club.punch(0, 6, 10);
             club.punch(1, 6, 0);
         }
-        punchAll(club, 0, 1, 10, 2, 10, 3, 11);
+        Calls.punchAll(club, 0, 1, 10, 2, 10, 3, 11);
         check.due("the twentieth is the finish", club.stateOf(0), Spurline.RANKED);
-        punchAll(club, 1, 1, 0, 6, 0, 3, 0);
+        Calls.punchAll(club, 1, 1, 0, 6, 0, 3, 0);
         check.due("the twentieth is the finish, and one lacks", club.stateOf(1), Spurline.WRONG);
         Spurline other = drawn();
         for (int control : new int[] {1, 2, 3, 0}) {
@@ -257,36 +239,36 @@ final class RaceEdgesTest {
     private static void splits() {
         check.about(27);
         Spurline club = entered();
-        hasSplits("starts were not drawn", club, 2, -1, -1, -1, -1, -1);
+        check.hasSplits("starts were not drawn", club, 2, -1, -1, -1, -1, -1);
         club.draw(0, 10);
-        hasSplits("no punches", club, 2, -1, -1, -1, -1, -1);
-        punchAll(club, 2, 2, 0);
-        hasSplits("a punch that does not count", club, 2, -1, -1, -1, -1, -1);
-        punchAll(club, 2, 1, 0);
-        hasSplits("no minutes", club, 2, 0, -1, -1, -1, -1);
-        punchAll(club, 2, 2, 9999);
-        hasSplits("all minutes", club, 2, 0, 9999, -1, -1, -1);
-        punchAll(club, 2, 5, 9999);
-        hasSplits("the finish has not counted", club, 2, 0, 9999, -1, -1, -1);
-        punchAll(club, 2, 3, 9999, 0, 9999, 5, 9999);
-        hasSplits("all", club, 2, 0, 9999, 0, 0, 0);
-        punchAll(club, 3, 1, 20);
-        hasSplits("at the start", club, 3, 0, -1, -1);
+        check.hasSplits("no punches", club, 2, -1, -1, -1, -1, -1);
+        Calls.punchAll(club, 2, 2, 0);
+        check.hasSplits("a punch that does not count", club, 2, -1, -1, -1, -1, -1);
+        Calls.punchAll(club, 2, 1, 0);
+        check.hasSplits("no minutes", club, 2, 0, -1, -1, -1, -1);
+        Calls.punchAll(club, 2, 2, 9999);
+        check.hasSplits("all minutes", club, 2, 0, 9999, -1, -1, -1);
+        Calls.punchAll(club, 2, 5, 9999);
+        check.hasSplits("the finish has not counted", club, 2, 0, 9999, -1, -1, -1);
+        Calls.punchAll(club, 2, 3, 9999, 0, 9999, 5, 9999);
+        check.hasSplits("all", club, 2, 0, 9999, 0, 0, 0);
+        Calls.punchAll(club, 3, 1, 20);
+        check.hasSplits("at the start", club, 3, 0, -1, -1);
     }
 
     private static void splitsOfVoidLegs() {
         check.about(27);
         Spurline club = drawn();
-        punchAll(club, 2, 1, 1, 2, 3, 3, 7);
+        Calls.punchAll(club, 2, 1, 1, 2, 3, 3, 7);
         club.fail(1, true);
-        hasSplits("the first leg and the second one are void", club, 2, -1, -1, 4, -1, -1);
+        check.hasSplits("the first leg and the second one are void", club, 2, -1, -1, 4, -1, -1);
         club.fail(2, true);
-        hasSplits("three are void", club, 2, -1, -1, -1, -1, -1);
+        check.hasSplits("three are void", club, 2, -1, -1, -1, -1, -1);
         club.fail(1, false);
-        hasSplits("the first one is not", club, 2, 1, -1, -1, -1, -1);
-        hasSplits("without punches", club, 0, -1, -1, -1);
+        check.hasSplits("the first one is not", club, 2, 1, -1, -1, -1, -1);
+        check.hasSplits("without punches", club, 0, -1, -1, -1);
         club.fail(2, false);
-        hasSplits("none is void", club, 2, 1, 2, 4, -1, -1);
+        check.hasSplits("none is void", club, 2, 1, 2, 4, -1, -1);
     }
 
     private static void legsBeyond(Unchanged ready, Unchanged race) {
@@ -310,11 +292,11 @@ final class RaceEdgesTest {
         check.about(28);
         Spurline club = drawn();
         check.due("RUNNING, no punches", club.total(1), Spurline.NONE);
-        punchAll(club, 1, 1, 0, 2, 0);
+        Calls.punchAll(club, 1, 1, 0, 2, 0);
         check.due("RUNNING, all but the finish", club.total(1), Spurline.NONE);
-        punchAll(club, 1, 3, 0);
+        Calls.punchAll(club, 1, 3, 0);
         check.due("RANKED, no minutes", club.total(1), 0);
-        punchAll(club, 0, 2, 10, 3, 12);
+        Calls.punchAll(club, 0, 2, 10, 3, 12);
         check.due("WRONG", club.total(0), Spurline.NONE);
         club.fail(1, true);
         check.due("RANKED by a failure, without the void legs", club.total(0), 2);
@@ -323,7 +305,7 @@ final class RaceEdgesTest {
         club.fail(1, false);
         check.due("WRONG by a control that has not failed", club.total(0), Spurline.NONE);
         club.fail(2, false);
-        punchAll(club, 2, 1, 0, 2, 1, 3, 2, 0, 3, 5, 9999);
+        Calls.punchAll(club, 2, 1, 0, 2, 1, 3, 2, 0, 3, 5, 9999);
         check.due("the most minutes", club.total(2), 9999);
         Spurline before = entered();
         check.due("starts were not drawn", before.total(0), Spurline.NONE);
@@ -333,17 +315,17 @@ final class RaceEdgesTest {
         check.about(29);
         Spurline club = drawn();
         check.due("RUNNING", club.rank(0), Spurline.NONE);
-        punchAll(club, 2, 1, 0, 2, 0, 3, 0, 0, 0, 5, 0);
+        Calls.punchAll(club, 2, 1, 0, 2, 0, 3, 0, 0, 0, 5, 0);
         check.due("the only one of the class", club.rank(2), 1);
-        punchAll(club, 3, 1, 20, 2, 20, 3, 25);
+        Calls.punchAll(club, 3, 1, 20, 2, 20, 3, 25);
         check.due("one of another class is quicker", club.rank(3), 1);
-        punchAll(club, 0, 3, 10);
+        Calls.punchAll(club, 0, 3, 10);
         check.due("WRONG", club.rank(0), Spurline.NONE);
         check.due("which is no rival", club.rank(3), 1);
-        punchAll(club, 1, 1, 5, 2, 5, 3, 5);
+        Calls.punchAll(club, 1, 1, 5, 2, 5, 3, 5);
         check.due("the same total: no lesser one", club.rank(1), 1);
         check.due("the same total: both", club.rank(3), 1);
-        punchAll(club, 0, 1, 10, 2, 10, 3, 16);
+        Calls.punchAll(club, 0, 1, 10, 2, 10, 3, 16);
         check.due("two have a lesser one", club.rank(0), 3);
         club.fail(2, true);
         check.due("void legs make ranks anew: 0", club.rank(0), 1);
@@ -357,7 +339,7 @@ final class RaceEdgesTest {
         Spurline club = new Spurline(3, 2);
         club.control(0, 0);
         club.control(1, 0);
-        visitAll(club, 3, 0, 1);
+        Calls.visitAll(club, 3, 0, 1);
         for (int runner = 0; runner < 24; runner++) {
             club.enter(3, runner % 3);
         }
@@ -383,9 +365,9 @@ final class RaceEdgesTest {
         check.about(30);
         Spurline club = drawn();
         check.due("RUNNING", club.lost(0, 0), Spurline.NONE);
-        punchAll(club, 0, 1, 15);
+        Calls.punchAll(club, 0, 1, 15);
         check.due("RUNNING, a leg with a split", club.lost(0, 0), Spurline.NONE);
-        punchAll(club, 0, 3, 20);
+        Calls.punchAll(club, 0, 3, 20);
         check.due("WRONG, a leg with a split", club.lost(0, 0), Spurline.NONE);
         club.fail(2, true);
         check.due("RANKED", club.lost(0, 0), 0);
@@ -399,16 +381,16 @@ final class RaceEdgesTest {
     private static void lostNothing() {
         check.about(30);
         Spurline club = drawn();
-        punchAll(club, 1, 1, 10, 2, 20, 3, 30);
+        Calls.punchAll(club, 1, 1, 10, 2, 20, 3, 30);
         check.due("the best one of all", club.lost(1, 0), 0);
-        punchAll(club, 0, 1, 30, 2, 50, 3, 70);
+        Calls.punchAll(club, 0, 1, 30, 2, 50, 3, 70);
         // The best splits are 10 each: pace 60000 / 30 = 2000.
         check.due("just the best one times the pace", club.lost(0, 1), 0);
-        punchAll(club, 3, 1, 40, 2, 59, 3, 80);
+        Calls.punchAll(club, 3, 1, 40, 2, 59, 3, 80);
         // Splits 20, 19, 21: the pace is 2000 as well.
         check.due("one below", club.lost(3, 1), 0);
         check.due("one above", club.lost(3, 2), 1);
-        punchAll(club, 2, 1, 2, 2, 5, 3, 10, 0, 20, 5, 20);
+        Calls.punchAll(club, 2, 1, 2, 2, 5, 3, 10, 0, 20, 5, 20);
         // Class 4 has another first leg; the legs 1 to 2 and 2 to 3 it has in common: 3 and 5, with 10 together 18.
         check.due("pace 60000 / 18 = 3333, of the best 3 9", club.lost(0, 1), 20 - 9);
         check.due("of the best 5 16", club.lost(0, 2), 20 - 16);
@@ -419,19 +401,19 @@ final class RaceEdgesTest {
     private static void lostMost() {
         check.about(30);
         Spurline club = drawn();
-        punchAll(club, 1, 1, 0, 2, 0, 3, 0);
+        Calls.punchAll(club, 1, 1, 0, 2, 0, 3, 0);
         check.due("no minutes at all: pace 1000", club.lost(1, 0), 0);
-        punchAll(club, 2, 1, 0, 2, 9999, 3, 9999, 0, 9999, 5, 9999);
+        Calls.punchAll(club, 2, 1, 0, 2, 9999, 3, 9999, 0, 9999, 5, 9999);
         check.due("all minutes on a leg that was run in none: pace 1000", club.lost(2, 1), 9999);
         check.due("none on the next", club.lost(2, 2), 0);
-        punchAll(club, 0, 1, 11, 2, 11, 3, 11);
+        Calls.punchAll(club, 0, 1, 11, 2, 11, 3, 11);
         check.due("1 where the best is 0", club.lost(0, 0), 1);
         Spurline long0 = drawn();
-        punchAll(long0, 2, 1, 9999, 2, 9999, 3, 9999, 0, 9999, 5, 9999);
+        Calls.punchAll(long0, 2, 1, 9999, 2, 9999, 3, 9999, 0, 9999, 5, 9999);
         check.due("the most minutes, alone: pace 1000", long0.lost(2, 0), 0);
         Spurline quick = drawn();
-        punchAll(quick, 1, 1, 0, 2, 0, 3, 1);
-        punchAll(quick, 0, 1, 10, 2, 10, 3, 9999);
+        Calls.punchAll(quick, 1, 1, 0, 2, 0, 3, 1);
+        Calls.punchAll(quick, 0, 1, 10, 2, 10, 3, 9999);
         // The best splits are 0, 0 and 1: the greatest pace of all but one, 1000 times 9989.
         check.due("the greatest pace", quick.lost(0, 2), 0);
     }

@@ -55,18 +55,6 @@ final class RaceTest {
         return club;
     }
 
-    private static void punchAll(Spurline club, int runner, int... controlsAndMinutes) {
-        for (int index = 0; index < controlsAndMinutes.length; index += 2) {
-            club.punch(runner, controlsAndMinutes[index], controlsAndMinutes[index + 1]);
-        }
-    }
-
-    private static void hasSplits(String what, Spurline club, int runner, int... minutes) {
-        for (int leg = 0; leg < minutes.length; leg++) {
-            check.due(what + ": split " + leg, club.split(runner, leg), minutes[leg]);
-        }
-    }
-
     private static void punchCounts() {
         Spurline club = withRunners(1, 0);
         check.due("the start does not count", club.punch(0, 0, 0), 0);
@@ -78,7 +66,7 @@ final class RaceTest {
         check.due("the finish", club.punch(0, 3, 9), 3);
         check.due("one too many", club.punch(0, 3, 9), 3);
         check.due("and one more", club.punch(0, 1, 10), 3);
-        hasSplits("punches that count", club, 0, 2, 2, 5);
+        check.hasSplits("punches that count", club, 0, 2, 2, 5);
     }
 
     private static void punchRefuses() {
@@ -112,7 +100,7 @@ final class RaceTest {
         check.due("with the punch before", club.punch(0, 2, 20), 2);
         check.due("the last minute", club.punch(0, 3, 9999), 3);
         check.due("total", club.total(0), 9989);
-        hasSplits("minutes", club, 0, 0, 10, 9979);
+        check.hasSplits("minutes", club, 0, 0, 10, 9979);
     }
 
     private static void punchLimit() {
@@ -125,8 +113,8 @@ final class RaceTest {
         check.refused("20 punches come ahead of the minute", Check.STATE, () -> club.punch(0, 2, -1));
         check.refused("control comes ahead of 20 punches", Check.INDEX, () -> club.punch(0, 6, 5));
         check.due("another runner has none", club.punch(1, 1, 3), 1);
-        hasSplits("the limit", club, 0, 4, -1, -1);
-        hasSplits("the other", club, 1, 3, -1, -1);
+        check.hasSplits("the limit", club, 0, 4, -1, -1);
+        check.hasSplits("the other", club, 1, 3, -1, -1);
     }
 
     private static void fail() {
@@ -165,42 +153,42 @@ final class RaceTest {
         check.due("ahead of the draw", club.stateOf(0), Spurline.RUNNING);
         club.draw(0, 1);
         check.due("no punches", club.stateOf(0), Spurline.RUNNING);
-        punchAll(club, 0, 1, 5);
+        Calls.punchAll(club, 0, 1, 5);
         check.due("one of three", club.stateOf(0), Spurline.RUNNING);
-        punchAll(club, 0, 2, 6);
+        Calls.punchAll(club, 0, 2, 6);
         check.due("two of three", club.stateOf(0), Spurline.RUNNING);
-        punchAll(club, 0, 3, 7);
+        Calls.punchAll(club, 0, 3, 7);
         check.due("all", club.stateOf(0), Spurline.RANKED);
-        punchAll(club, 0, 0, 8, 3, 9);
+        Calls.punchAll(club, 0, 0, 8, 3, 9);
         check.due("and more", club.stateOf(0), Spurline.RANKED);
         check.due("its total", club.total(0), 7);
     }
 
     private static void stateAtTheFinishFirst() {
         Spurline club = withRunners(1, 0);
-        punchAll(club, 0, 1, 5, 3, 6);
+        Calls.punchAll(club, 0, 1, 5, 3, 6);
         check.due("one left out", club.stateOf(0), Spurline.WRONG);
-        punchAll(club, 0, 2, 7);
+        Calls.punchAll(club, 0, 2, 7);
         check.due("the finish was ahead of it", club.stateOf(0), Spurline.WRONG);
         check.due("no total", club.total(0), -1);
         check.due("no rank", club.rank(0), -1);
-        punchAll(club, 0, 3, 8);
+        Calls.punchAll(club, 0, 3, 8);
         check.due("the finish again", club.stateOf(0), Spurline.RANKED);
-        hasSplits("the finish again", club, 0, 5, 2, 1);
+        check.hasSplits("the finish again", club, 0, 5, 2, 1);
     }
 
     private static void failuresChangeStates() {
         Spurline club = withRunners(1, 0, 0);
-        punchAll(club, 0, 2, 6, 3, 9);
+        Calls.punchAll(club, 0, 2, 6, 3, 9);
         check.due("one left out", club.stateOf(0), Spurline.WRONG);
         club.fail(1, true);
         check.due("it failed", club.stateOf(0), Spurline.RANKED);
-        hasSplits("it failed", club, 0, -1, -1, 3);
+        check.hasSplits("it failed", club, 0, -1, -1, 3);
         check.due("punches count", club.punch(0, 1, 9), 2);
         check.due("the total", club.total(0), 3);
         club.fail(2, true);
         check.due("both failed", club.stateOf(0), Spurline.RANKED);
-        hasSplits("both failed", club, 0, -1, -1, -1);
+        check.hasSplits("both failed", club, 0, -1, -1, -1);
         check.due("no legs left", club.total(0), 0);
         check.due("a rank all the same", club.rank(0), 1);
         check.due("the other one is under way", club.stateOf(1), Spurline.RUNNING);
@@ -229,7 +217,7 @@ final class RaceTest {
         check.due("the first", club.punch(0, 1, 4), 1);
         check.due("the second", club.punch(0, 2, 9), 2);
         check.due("no finish is needed", club.stateOf(0), Spurline.RANKED);
-        hasSplits("start and finish failed", club, 0, -1, 5, -1);
+        check.hasSplits("start and finish failed", club, 0, -1, 5, -1);
         check.due("the total of one leg", club.total(0), 5);
         check.due("nothing lost on it", club.lost(0, 1), 0);
         check.due("void at the start", club.lost(0, 0), -1);
@@ -268,41 +256,41 @@ final class RaceTest {
         check.due("nobody was at 0 as finish", club.stateOf(0), Spurline.RUNNING);
         check.due("one ahead of 0", club.punch(0, 2, 3), 1);
         check.due("still not at 0", club.stateOf(0), Spurline.RUNNING);
-        hasSplits("finish 0", club, 0, 3, -1);
+        check.hasSplits("finish 0", club, 0, 3, -1);
         check.due("the finish 1 alone", club.punch(1, 1, 3), 0);
         check.due("is wrong", club.stateOf(1), Spurline.WRONG);
         check.due("then 0", club.punch(1, 0, 4), 1);
-        hasSplits("0 between", club, 1, 4, -1);
+        check.hasSplits("0 between", club, 1, 4, -1);
     }
 
     private static void splits() {
         Spurline club = withCourses();
         club.enter(0, 0);
         club.enter(0, 0);
-        hasSplits("ahead of the draw", club, 0, -1, -1, -1);
+        check.hasSplits("ahead of the draw", club, 0, -1, -1, -1);
         club.draw(0, 10);
-        hasSplits("no punches", club, 0, -1, -1, -1);
-        punchAll(club, 0, 1, 25);
-        hasSplits("less the start", club, 0, 15, -1, -1);
-        punchAll(club, 0, 3, 26, 2, 30);
-        hasSplits("a finish that does not count", club, 0, 15, 5, -1);
-        punchAll(club, 0, 3, 30);
-        hasSplits("all", club, 0, 15, 5, 0);
-        hasSplits("the other one", club, 1, -1, -1, -1);
+        check.hasSplits("no punches", club, 0, -1, -1, -1);
+        Calls.punchAll(club, 0, 1, 25);
+        check.hasSplits("less the start", club, 0, 15, -1, -1);
+        Calls.punchAll(club, 0, 3, 26, 2, 30);
+        check.hasSplits("a finish that does not count", club, 0, 15, 5, -1);
+        Calls.punchAll(club, 0, 3, 30);
+        check.hasSplits("all", club, 0, 15, 5, 0);
+        check.hasSplits("the other one", club, 1, -1, -1, -1);
     }
 
     private static void splitsOfVoidLegs() {
         Spurline club = withRunners(10, 0, 1, 1);
-        punchAll(club, 1, 1, 12, 2, 20, 3, 29, 5, 41);
-        hasSplits("five controls", club, 1, 12, 8, 9, 12);
+        Calls.punchAll(club, 1, 1, 12, 2, 20, 3, 29, 5, 41);
+        check.hasSplits("five controls", club, 1, 12, 8, 9, 12);
         club.fail(2, true);
-        hasSplits("one failed", club, 1, 12, -1, -1, 12);
+        check.hasSplits("one failed", club, 1, 12, -1, -1, 12);
         check.due("the total of the others", club.total(1), 24);
         club.fail(2, false);
         club.fail(1, true);
-        hasSplits("another one failed", club, 1, -1, -1, 9, 12);
+        check.hasSplits("another one failed", club, 1, -1, -1, 9, 12);
         club.fail(2, true);
-        hasSplits("two failed", club, 1, -1, -1, -1, 12);
+        check.hasSplits("two failed", club, 1, -1, -1, -1, 12);
         check.due("the total of one", club.total(1), 12);
     }
 
@@ -311,9 +299,9 @@ final class RaceTest {
         check.due("no total yet", club.total(0), -1);
         check.due("no rank yet", club.rank(0), -1);
         // Class 0 starts like this: 1, 0, 5, 3.
-        punchAll(club, 1, 1, 5, 2, 20, 3, 40);
-        punchAll(club, 0, 1, 20, 2, 30, 3, 40);
-        punchAll(club, 5, 1, 30, 2, 40, 3, 60);
+        Calls.punchAll(club, 1, 1, 5, 2, 20, 3, 40);
+        Calls.punchAll(club, 0, 1, 20, 2, 30, 3, 40);
+        Calls.punchAll(club, 5, 1, 30, 2, 40, 3, 60);
         check.due("total 1", club.total(1), 40);
         check.due("total 0", club.total(0), 30);
         check.due("total 5", club.total(5), 40);
@@ -321,10 +309,10 @@ final class RaceTest {
         check.due("rank 1", club.rank(1), 2);
         check.due("rank 5", club.rank(5), 2);
         check.due("rank 3", club.rank(3), -1);
-        punchAll(club, 2, 1, 20, 2, 21, 3, 22, 5, 23);
+        Calls.punchAll(club, 2, 1, 20, 2, 21, 3, 22, 5, 23);
         check.due("another class", club.rank(2), 1);
         check.due("does not matter", club.rank(1), 2);
-        punchAll(club, 3, 1, 45, 2, 80, 3, 81);
+        Calls.punchAll(club, 3, 1, 45, 2, 80, 3, 81);
         check.due("behind two with one rank", club.rank(3), 4);
         club.fail(2, true);
         check.due("ranks made anew: 0", club.rank(0), 2);
@@ -337,12 +325,12 @@ final class RaceTest {
     private static void lostTime() {
         Spurline club = withRunners(4, 0, 0);
         check.due("nobody yet", club.lost(0, 0), -1);
-        punchAll(club, 0, 1, 14, 2, 19);
+        Calls.punchAll(club, 0, 1, 14, 2, 19);
         check.due("under way", club.lost(0, 0), -1);
-        punchAll(club, 0, 3, 34);
+        Calls.punchAll(club, 0, 3, 34);
         // Alone: each split is the best one, the pace 1000.
         check.due("alone", club.lost(0, 2), 0);
-        punchAll(club, 1, 1, 8, 2, 16, 3, 24);
+        Calls.punchAll(club, 1, 1, 8, 2, 16, 3, 24);
         // Splits 10, 5, 15 and 8, 8, 8: the best ones are 8, 5, 8. Paces 30000 / 21 = 1428 and 24000 / 21 = 1142.
         check.due("lost 0 0", club.lost(0, 0), 0);
         check.due("lost 0 1", club.lost(0, 1), 0);
@@ -360,27 +348,27 @@ final class RaceTest {
 
     private static void lostOnSharedLegs() {
         Spurline club = withRunners(1, 0, 1, 1);
-        punchAll(club, 0, 1, 10, 2, 20, 3, 40);
+        Calls.punchAll(club, 0, 1, 10, 2, 20, 3, 40);
         check.due("own splits alone", club.lost(0, 2), 0);
-        punchAll(club, 1, 1, 10, 2, 15, 3, 20);
+        Calls.punchAll(club, 1, 1, 10, 2, 15, 3, 20);
         check.due("one under way is no measure", club.lost(0, 2), 0);
-        punchAll(club, 1, 5, 30);
+        Calls.punchAll(club, 1, 5, 30);
         // The legs 1 to 2 and 2 to 3 were run in 5 and 5 by class 1. Pace 40000 / 20 = 2000.
         check.due("shared leg 1", club.lost(0, 1), 0);
         check.due("shared leg 2", club.lost(0, 2), 20 - 10);
         check.due("leg 0 is shared with nobody", club.lost(0, 0), 0);
         check.due("the other class", club.lost(1, 3), 0);
-        punchAll(club, 2, 1, 2, 2, 4, 3, 90, 5, 91);
+        Calls.punchAll(club, 2, 1, 2, 2, 4, 3, 90, 5, 91);
         check.due("best 2 on leg 1, pace 40000 / 17 = 2352", club.lost(0, 1), 10 - 4);
         check.due("best 5 on leg 2", club.lost(0, 2), 20 - 11);
     }
 
     private static void lostWithoutTime() {
         Spurline club = withRunners(1, 0, 0);
-        punchAll(club, 1, 1, 0, 2, 0, 3, 0);
+        Calls.punchAll(club, 1, 1, 0, 2, 0, 3, 0);
         check.due("no time at all", club.total(1), 0);
         check.due("nothing lost", club.lost(1, 0), 0);
-        punchAll(club, 0, 1, 1, 2, 9999, 3, 9999);
+        Calls.punchAll(club, 0, 1, 1, 2, 9999, 3, 9999);
         check.due("the best of all legs is 0: pace 1000", club.lost(0, 1), 9998);
         check.due("as good as the best", club.lost(0, 0), 0);
         check.due("the last", club.rank(0), 2);
@@ -388,16 +376,16 @@ final class RaceTest {
 
     private static void lostByThePaceRoundedDown() {
         Spurline club = withRunners(1, 0, 0);
-        punchAll(club, 1, 1, 1000, 2, 1000, 3, 1100);
-        punchAll(club, 0, 1, 5001, 2, 5001, 3, 5002);
+        Calls.punchAll(club, 1, 1, 1000, 2, 1000, 3, 1100);
+        Calls.punchAll(club, 0, 1, 5001, 2, 5001, 3, 5002);
         // The best splits are 1000, 0 and 1. Pace 5001000 / 1001 = 4996, and 1000 times it / 1000 are 4996.
         check.due("a pace rounded down", club.lost(0, 0), 5000 - 4996);
         check.due("nothing on a leg of no time", club.lost(0, 1), 0);
         // Pace 1100000 / 1001 = 1098, and 1 time it / 1000 is 1.
         check.due("the other one", club.lost(1, 2), 100 - 1);
         Spurline quick = withRunners(5, 0, 0);
-        punchAll(quick, 1, 1, 0, 2, 0, 3, 1);
-        punchAll(quick, 0, 1, 10, 2, 10, 3, 13);
+        Calls.punchAll(quick, 1, 1, 0, 2, 0, 3, 1);
+        Calls.punchAll(quick, 0, 1, 10, 2, 10, 3, 13);
         // The best splits are 0, 0 and 1: pace 8000 / 1.
         check.due("best splits of 1 together", quick.lost(0, 2), 0);
         check.due("all of a leg that can be run in no time", quick.lost(0, 0), 5);
@@ -406,7 +394,7 @@ final class RaceTest {
     private static void eachAskStandsAlone() {
         Spurline club = withRunners(1, 0);
         club.fail(1, true);
-        punchAll(club, 0, 2, 5, 3, 7);
+        Calls.punchAll(club, 0, 2, 5, 3, 7);
         club.fail(1, false);
         check.due("lost asked first", club.lost(0, 2), -1);
         club.fail(1, true);
@@ -423,12 +411,12 @@ final class RaceTest {
         Spurline club = withRunners(1, 0, 1, 0, 1, 0, 1, 0, 1, 0, 1, 0, 1, 0, 1, 0, 1, 0, 1, 0, 1, 0, 1, 0, 1);
         for (int runner = 0; runner < 24; runner++) {
             int start = club.startOf(runner);
-            punchAll(club, runner, 1, start + runner, 2, start + 2 * runner, 3, start + 3 * runner);
-            punchAll(club, runner, 5, start + 4 * runner);
+            Calls.punchAll(club, runner, 1, start + runner, 2, start + 2 * runner, 3, start + 3 * runner);
+            Calls.punchAll(club, runner, 5, start + 4 * runner);
         }
         for (int runner = 0; runner < 24; runner++) {
             check.due("state of " + runner, club.stateOf(runner), Spurline.RANKED);
-            hasSplits("runner " + runner, club, runner, runner, runner, runner);
+            check.hasSplits("runner " + runner, club, runner, runner, runner, runner);
             check.due("total of " + runner, club.total(runner), runner % 2 == 0 ? 3 * runner : 4 * runner);
             check.due("rank of " + runner, club.rank(runner), 1 + runner / 2);
             check.due("the leg 2 to 3 can be run in 0: " + runner, club.lost(runner, 2), runner);

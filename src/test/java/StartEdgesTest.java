@@ -56,12 +56,6 @@ final class StartEdgesTest {
         return withRunners(24, 4);
     }
 
-    private static void areStarts(String what, Spurline club, int... minutes) {
-        for (int runner = 0; runner < minutes.length; runner++) {
-            check.due(what + ": start of " + runner, club.startOf(runner), minutes[runner]);
-        }
-    }
-
     private static void enter() {
         check.about(8);
         Spurline club = withCourses();
@@ -106,15 +100,15 @@ final class StartEdgesTest {
         Spurline least = withRunners(3, 0);
         check.due("the least seed", least.draw(0, 1), 2);
         // The lots are 1663, 911 and 7194.
-        areStarts("the least seed", least, 1, 0, 2);
+        check.areStarts("the least seed", least, 1, 0, 2);
         Spurline greatest = withRunners(3, 0);
         check.due("the greatest seed", greatest.draw(7874, 1), 2);
         // The lots are 1242, 4795 and 4358.
-        areStarts("the greatest seed", greatest, 0, 2, 1);
+        check.areStarts("the greatest seed", greatest, 0, 2, 1);
         Spurline nought = withRunners(2, 0);
         // 421 times 2222 and 1663, together, are 119 times 7875: the lots are 0 and 1663.
         check.due("the seed of lot 0", nought.draw(2222, 1), 1);
-        areStarts("lot 0 is the least", nought, 0, 1);
+        check.areStarts("lot 0 is the least", nought, 0, 1);
     }
 
     private static void drawGaps() {
@@ -159,9 +153,9 @@ final class StartEdgesTest {
         }
         // The lots are 1663, 911, 7194, 6337.
         check.due("one club: there is no other one", one.draw(0, 1), 3);
-        areStarts("one club", one, 1, 0, 3, 2);
+        check.areStarts("one club", one, 1, 0, 3, 2);
         check.due("one of another club", two.draw(0, 1), 3);
-        areStarts("goes between the first two", two, 2, 0, 1, 3);
+        check.areStarts("goes between the first two", two, 2, 0, 1, 3);
     }
 
     private static void drawRefused(Unchanged entered, Unchanged drawn) {

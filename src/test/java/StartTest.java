@@ -27,12 +27,6 @@ final class StartTest {
         return club;
     }
 
-    private static void areStarts(String what, Spurline club, int... minutes) {
-        for (int runner = 0; runner < minutes.length; runner++) {
-            check.due(what + ": start of " + runner, club.startOf(runner), minutes[runner]);
-        }
-    }
-
     private static void enter() {
         Spurline club = withCourses();
         check.due("no runners", club.runners(), 0);
@@ -74,7 +68,7 @@ final class StartTest {
             club.enter(1, runner);
         }
         check.due("draw of seed 0", club.draw(0, 3), 15);
-        areStarts("seed 0", club, 3, 0, 12, 9, 15, 6);
+        check.areStarts("seed 0", club, 3, 0, 12, 9, 15, 6);
     }
 
     private static void drawKeepsClubsApart() {
@@ -85,7 +79,7 @@ final class StartTest {
         }
         // By lots alone: 1, 0, 5, 3, 2, 4.
         check.due("draw with clubs", club.draw(0, 2), 10);
-        areStarts("clubs apart", club, 2, 0, 6, 8, 10, 4);
+        check.areStarts("clubs apart", club, 2, 0, 6, 8, 10, 4);
     }
 
     private static void drawOneClubLeft() {
@@ -94,7 +88,7 @@ final class StartTest {
             club.enter(0, 5);
         }
         check.due("draw of one club", club.draw(0, 1), 5);
-        areStarts("one club", club, 1, 0, 4, 3, 5, 2);
+        check.areStarts("one club", club, 1, 0, 4, 3, 5, 2);
     }
 
     private static void drawClassesApart() {
@@ -105,14 +99,14 @@ final class StartTest {
         }
         // Lots go on from runner to runner, of whatever class.
         check.due("draw of three classes", club.draw(0, 10), 20);
-        areStarts("three classes", club, 0, 0, 20, 10, 0, 10);
+        check.areStarts("three classes", club, 0, 0, 20, 10, 0, 10);
     }
 
     private static void drawEdges() {
         Spurline club = withCourses();
         club.enter(0, 0);
         check.due("one runner", club.draw(7874, 10), 0);
-        areStarts("one runner", club, 0);
+        check.areStarts("one runner", club, 0);
         Spurline full = withCourses();
         for (int runner = 0; runner < 24; runner++) {
             full.enter(2, 0);
@@ -151,7 +145,7 @@ final class StartTest {
         check.refused("startOf -1", Check.INDEX, () -> club.startOf(-1));
         check.refused("startOf 2", Check.INDEX, () -> club.startOf(2));
         club.draw(0, 1);
-        areStarts("the draw", club, 1, 0);
+        check.areStarts("the draw", club, 1, 0);
         check.refused("startOf 2 after the draw", Check.INDEX, () -> club.startOf(2));
     }
 }

@@ -21,18 +21,6 @@ final class TermsEdgesTest {
         check.end("TermsEdgesTest");
     }
 
-    private static void visitAll(Spurline club, int klass, int... controls) {
-        for (int control : controls) {
-            club.visit(klass, control);
-        }
-    }
-
-    private static void punchAll(Spurline club, int runner, int... controlsAndMinutes) {
-        for (int index = 0; index < controlsAndMinutes.length; index += 2) {
-            club.punch(runner, controlsAndMinutes[index], controlsAndMinutes[index + 1]);
-        }
-    }
-
     /** Four controls in a row and one below; the classes 0 and 1 have the courses 0 1 2 3 and 4 1 2 3. */
     private static Spurline race(int... klasses) {
         Spurline club = new Spurline(4, 3);
@@ -40,9 +28,9 @@ final class TermsEdgesTest {
             club.control(control, 0);
         }
         club.control(0, 1);
-        visitAll(club, 0, 0, 1, 2, 3);
-        visitAll(club, 1, 4, 1, 2, 3);
-        visitAll(club, 2, 3, 2, 1, 0);
+        Calls.visitAll(club, 0, 0, 1, 2, 3);
+        Calls.visitAll(club, 1, 4, 1, 2, 3);
+        Calls.visitAll(club, 2, 3, 2, 1, 0);
         for (int klass : klasses) {
             club.enter(klass, 0);
         }
@@ -93,8 +81,8 @@ final class TermsEdgesTest {
         club.setGround(2, 1, 3, 1, 4);
         club.fail(2, true);
         club.fail(2, false);
-        punchAll(club, 1, 1, 4, 2, 9, 3, 11);
-        punchAll(club, 2, 1, 5, 2, 7);
+        Calls.punchAll(club, 1, 1, 4, 2, 9, 3, 11);
+        Calls.punchAll(club, 2, 1, 5, 2, 7);
         return club;
     }
 
@@ -291,7 +279,7 @@ final class TermsEdgesTest {
             club.control(control, 0);
             club.fail(control, true);
         }
-        visitAll(club, 0, 0, 1, 2);
+        Calls.visitAll(club, 0, 0, 1, 2);
         club.enter(0, 0);
         check.due("there is none that has not", club.stateOf(0), Spurline.RANKED);
         check.due("the sum of no splits", club.total(0), 0);
@@ -307,30 +295,30 @@ final class TermsEdgesTest {
     private static void bestSplitsOfTheRanked() {
         check.about("Terms: the best split of all RANKED runners, of all classes");
         Spurline club = race(0, 1, 1);
-        punchAll(club, 0, 1, 10, 2, 20, 3, 30);
-        punchAll(club, 1, 1, 9, 2, 10, 3, 40);
+        Calls.punchAll(club, 0, 1, 10, 2, 20, 3, 30);
+        Calls.punchAll(club, 1, 1, 9, 2, 10, 3, 40);
         // Of class 1: the best splits of class 0 become 10, 1 and 10, and the pace 30000 / 21 = 1428.
         check.due("of another class", club.lost(0, 1), 10 - 1);
-        punchAll(club, 2, 1, 20, 2, 20);
+        Calls.punchAll(club, 2, 1, 20, 2, 20);
         check.due("of one who is RUNNING", club.lost(0, 1), 10 - 1);
-        punchAll(club, 2, 4, 21);
+        Calls.punchAll(club, 2, 4, 21);
         check.due("of one who is still RUNNING", club.lost(0, 1), 10 - 1);
-        punchAll(club, 2, 3, 60);
+        Calls.punchAll(club, 2, 3, 60);
         // The best splits are 10, 0 and 10: a leg that was run in no time.
         check.due("of one who came to the finish", club.lost(0, 1), 10);
         Spurline wrong = race(0, 1);
-        punchAll(wrong, 0, 1, 10, 2, 20, 3, 30);
-        punchAll(wrong, 1, 3, 5, 1, 9, 2, 10);
+        Calls.punchAll(wrong, 0, 1, 10, 2, 20, 3, 30);
+        Calls.punchAll(wrong, 1, 3, 5, 1, 9, 2, 10);
         check.due("of one who is WRONG", wrong.lost(0, 1), 0);
-        punchAll(wrong, 1, 3, 90);
+        Calls.punchAll(wrong, 1, 3, 90);
         check.due("of one who is so no more", wrong.lost(0, 1), 10 - 1);
     }
 
     private static void bestSplitsOneWay() {
         check.about("Terms: of legs from the one to the other");
         Spurline club = race(0, 2);
-        punchAll(club, 0, 1, 10, 2, 20, 3, 30);
-        punchAll(club, 1, 2, 1, 1, 2, 0, 3);
+        Calls.punchAll(club, 0, 1, 10, 2, 20, 3, 30);
+        Calls.punchAll(club, 1, 2, 1, 1, 2, 0, 3);
         check.due("the other way is not the same", club.lost(0, 1), 0);
         check.due("nor back", club.lost(1, 1), 0);
     }
@@ -338,8 +326,8 @@ final class TermsEdgesTest {
     private static void divisionsRoundedDown() {
         check.about("Terms: all divisions are rounded down");
         Spurline club = race(0, 0);
-        punchAll(club, 1, 1, 3, 2, 6, 3, 9);
-        punchAll(club, 0, 1, 4, 2, 7, 3, 12);
+        Calls.punchAll(club, 1, 1, 3, 2, 6, 3, 9);
+        Calls.punchAll(club, 0, 1, 4, 2, 7, 3, 12);
         // Of runner 0 the splits are 3, 3, 5 and the best ones 3, 3, 3: pace 11000 / 9 = 1222, and 3 times it is 3.666.
         check.due("3.666 is 3", club.lost(0, 2), 5 - 3);
         check.due("not below 0", club.lost(0, 0), 0);

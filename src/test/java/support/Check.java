@@ -56,6 +56,25 @@ final class Check {
         }
     }
 
+    void isCourse(String what, Spurline club, int klass, int... controls) {
+        for (int index = 0; index < controls.length; index++) {
+            due(what + ": control " + index, club.courseAt(klass, index), controls[index]);
+        }
+        refused(what + ": no more controls", INDEX, () -> club.courseAt(klass, controls.length));
+    }
+
+    void areStarts(String what, Spurline club, int... minutes) {
+        for (int runner = 0; runner < minutes.length; runner++) {
+            due(what + ": start of " + runner, club.startOf(runner), minutes[runner]);
+        }
+    }
+
+    void hasSplits(String what, Spurline club, int runner, int... minutes) {
+        for (int leg = 0; leg < minutes.length; leg++) {
+            due(what + ": split " + leg, club.split(runner, leg), minutes[leg]);
+        }
+    }
+
     void end(String name) {
         System.out.println(name + ": " + (made - failed) + " checks hold, " + failed + " do not");
         if (failed > 0 || made == 0) {
