@@ -16,6 +16,8 @@ final class RaceEdgesTest {
         failRefused(ready, race);
         states();
         statesByTheLastPunch();
+        statesOfNeighbours();
+        statesAtControlNought();
         splits();
         splitsOfVoidLegs();
         legsBeyond(ready, race);
@@ -176,7 +178,8 @@ final class RaceEdgesTest {
     private static void failRefused(Unchanged ready, Unchanged race) {
         check.about(11);
         for (Unchanged clubs : new Unchanged[] {ready, race}) {
-            clubs.numbersBeyond("control", 0, CONTROLS - 1, Check.INDEX, (club, control) -> club.fail(control, true) ? 1 : 0);
+            clubs.numbersBeyond("control", 0, CONTROLS - 1, Check.INDEX,
+                    (club, control) -> club.fail(control, true) ? 1 : 0);
             clubs.refused("control 12", Check.INDEX, club -> club.fail(12, false) ? 1 : 0);
             // Start and finish of class 0, start and finish of class 4; 3 is the only one of class 2 as well.
             for (int control : new int[] {0, 3, 4, 5}) {
@@ -234,6 +237,41 @@ final class RaceEdgesTest {
         check.due("all of six but the finish", other.stateOf(2), Spurline.RUNNING);
         other.punch(2, 5, 7);
         check.due("all of six", other.stateOf(2), Spurline.RANKED);
+    }
+
+    private static void statesOfNeighbours() {
+        check.about(26);
+        Spurline club = drawn();
+        for (int punch = 0; punch < 20; punch++) {
+            club.punch(0, punch == 19 ? 3 : 6, 10);
+            club.punch(3, 6, 20);
+        }
+        check.due("the twentieth is the finish", club.stateOf(0), Spurline.WRONG);
+        check.due("the next runner has no punches", club.stateOf(1), Spurline.RUNNING);
+        club.punch(1, 6, 0);
+        check.due("the next runner has one elsewhere", club.stateOf(1), Spurline.RUNNING);
+        check.due("20 elsewhere", club.stateOf(3), Spurline.RUNNING);
+        Spurline other = drawn();
+        for (int punch = 0; punch < 20; punch++) {
+            other.punch(0, 6, 10);
+        }
+        other.punch(1, 3, 0);
+        check.due("the next runner begins with the finish", other.stateOf(1), Spurline.WRONG);
+        check.due("20 elsewhere, ahead of it", other.stateOf(0), Spurline.RUNNING);
+    }
+
+    private static void statesAtControlNought() {
+        check.about(26);
+        Spurline club = withCourses();
+        Calls.visitAll(club, 1, 6, 5, 0);
+        club.enter(1, 0);
+        check.due("the finish is control 0, ahead of the draw", club.stateOf(0), Spurline.RUNNING);
+        club.draw(0, 1);
+        check.due("the finish is control 0, no punches", club.stateOf(0), Spurline.RUNNING);
+        club.punch(0, 5, 4);
+        check.due("the finish is control 0, not there", club.stateOf(0), Spurline.RUNNING);
+        club.punch(0, 0, 4);
+        check.due("the finish is control 0, there", club.stateOf(0), Spurline.RANKED);
     }
 
     private static void splits() {
